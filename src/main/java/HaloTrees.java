@@ -151,10 +151,10 @@ public final class HaloTrees {
             case 0: return now.pictures;
             case 1: return now.length;
             case 2: return now.least;
-            case 3: return surveyed().countHalos();
-            case 4: return surveyed().countEnding();
-            case 5: return surveyed().countBeginning();
-            case 6: return surveyed().longestBranch();
+            case 3: return forest.surveyed(now).countHalos();
+            case 4: return forest.surveyed(now).countEnding();
+            case 5: return forest.surveyed(now).countBeginning();
+            case 6: return forest.surveyed(now).longestBranch();
             case 7: return past.count;
             default: return OUTSIDE;
         }
@@ -167,9 +167,9 @@ public final class HaloTrees {
         switch (what) {
             case 0: return Integer.bitCount(now.grainsOf(picture));
             case 1: return now.grainsOf(picture);
-            case 2: return surveyed().clumpings[picture].links;
-            case 3: return surveyed().clumpings[picture].count;
-            case 4: return surveyed().halos[picture].count;
+            case 2: return forest.surveyed(now).clumpings[picture].links;
+            case 3: return forest.surveyed(now).clumpings[picture].count;
+            case 4: return forest.surveyed(now).halos[picture].count;
             case 5: return treeOf(picture).height;
             case 6: return treeOf(picture).top;
             case 7: return now.weightOf(now.grainsOf(picture));
@@ -185,10 +185,10 @@ public final class HaloTrees {
         switch (what) {
             case 0: return in ? now.xOf(picture, grain) : NONE;
             case 1: return in ? now.yOf(picture, grain) : NONE;
-            case 2: return surveyed().clumpings[picture].clump[grain];
-            case 3: return surveyed().halos[picture].numberOf(grain);
-            case 4: return Integer.bitCount(surveyed().clumpings[picture].linked[grain]);
-            case 5: return surveyed().clumpings[picture].isHolding(grain) ? 1 : 0;
+            case 2: return forest.surveyed(now).clumpings[picture].clump[grain];
+            case 3: return forest.surveyed(now).halos[picture].numberOf(grain);
+            case 4: return Integer.bitCount(forest.surveyed(now).clumpings[picture].linked[grain]);
+            case 5: return forest.surveyed(now).clumpings[picture].isHolding(grain) ? 1 : 0;
             case 6: return treeOf(picture).depthOf[grain];
             case 7: return now.weight[grain];
             default: return OUTSIDE;
@@ -199,7 +199,7 @@ public final class HaloTrees {
         if (!isHalo(picture, halo)) {
             return UNKNOWN;
         }
-        Halos halos = surveyed().halos[picture];
+        Halos halos = forest.surveyed(now).halos[picture];
         switch (what) {
             case 0: return halos.grains[halo];
             case 1: return halos.weight[halo];
@@ -217,7 +217,7 @@ public final class HaloTrees {
         if (!isHalo(picture, halo)) {
             return UNKNOWN;
         }
-        return surveyed().halos[picture].comesFrom[halo];
+        return forest.surveyed(now).halos[picture].comesFrom[halo];
     }
 
     public int branch(int picture, int halo, int k) {
@@ -227,19 +227,15 @@ public final class HaloTrees {
         if (k < 0) {
             return OUTSIDE;
         }
-        int at = halo;
-        for (int back = 0; back < k && at != NONE; back++) {
-            at = surveyed().mainOf(picture - back, at);
-        }
-        return at;
+        return forest.surveyed(now).branchBack(picture, halo, k);
     }
 
     public int common(int picture, int halo, int next) {
-        if (!isHalo(picture, halo) || picture + 1 >= now.pictures || !isHalo(picture + 1, next)) {
+        if (!isHalo(picture, halo) || !isHalo(picture + 1, next)) {
             return UNKNOWN;
         }
-        int own = surveyed().halos[picture].grains[halo];
-        return now.weightOf(own & surveyed().halos[picture + 1].grains[next]);
+        Halos[] halos = forest.surveyed(now).halos;
+        return now.weightOf(halos[picture].grains[halo] & halos[picture + 1].grains[next]);
     }
 
     // ---- the tree
@@ -298,7 +294,7 @@ public final class HaloTrees {
         if (!isGrainOfPicture(picture, grain) || !isGrain(other)) {
             return UNKNOWN;
         }
-        return surveyed().clumpings[picture].countSteps(grain, other);
+        return forest.surveyed(now).clumpings[picture].countSteps(grain, other);
     }
 
     public int clumps(int picture, int length) {
@@ -308,8 +304,7 @@ public final class HaloTrees {
         if (!isBetween(length, 0, MOST_OTHER_LENGTH)) {
             return OUTSIDE;
         }
-        trial.link(now, picture, length);
-        return trial.count;
+        return clumpedBy(picture, length).count;
     }
 
     public int join(int picture, int grain, int other) {
@@ -324,8 +319,7 @@ public final class HaloTrees {
         // The longest length joins any two places of the field, and a longer one never parts a clump.
         for (int round = 0; round < MOST_OTHER_LENGTH && low < high; round++) {
             int middle = (low + high) / 2;
-            trial.link(now, picture, middle);
-            if (has(trial.clump[grain], other)) {
+            if (has(clumpedBy(picture, middle).clump[grain], other)) {
                 high = middle;
             } else {
                 low = middle + 1;
@@ -368,7 +362,7 @@ public final class HaloTrees {
     }
 
     private boolean isHalo(int picture, int halo) {
-        return isPicture(picture) && halo >= 0 && halo < surveyed().halos[picture].count;
+        return isPicture(picture) && halo >= 0 && halo < forest.surveyed(now).halos[picture].count;
     }
 
     private static boolean isGrain(int grain) {
@@ -397,11 +391,10 @@ public final class HaloTrees {
         forest.fresh = false;
     }
 
-    private Forest surveyed() {
-        if (!forest.fresh) {
-            forest.survey(now);
-        }
-        return forest;
+    private Clumping clumpedBy(int picture, int length) {
+        trial.link(now, picture, length);
+        trial.gatherClumps(now.grainsOf(picture));
+        return trial;
     }
 
     private SplittingTree treeOf(int picture) {
@@ -413,10 +406,10 @@ public final class HaloTrees {
         if (picture + 1 >= now.pictures) {
             return 0;
         }
-        Halos halos = surveyed().halos[picture];
-        int there = halos.grains[halo] & now.grainsOf(picture + 1);
-        int goesOn = halos.goesOn[halo];
-        int together = goesOn == NONE ? 0 : surveyed().halos[picture + 1].grains[goesOn];
+        Halos[] halos = forest.surveyed(now).halos;
+        int there = halos[picture].grains[halo] & now.grainsOf(picture + 1);
+        int goesOn = halos[picture].goesOn[halo];
+        int together = goesOn == NONE ? 0 : halos[picture + 1].grains[goesOn];
         return now.weightOf(there & ~together);
     }
 
@@ -557,7 +550,6 @@ public final class HaloTrees {
                     linkToLesser(field, picture, grain, length * length);
                 }
             }
-            gatherClumps(field.grainsOf(picture));
         }
 
         private void linkToLesser(Field field, int picture, int grain, int mostWay) {
@@ -572,7 +564,7 @@ public final class HaloTrees {
             }
         }
 
-        private void gatherClumps(int there) {
+        void gatherClumps(int there) {
             count = 0;
             Arrays.fill(clump, 0);
             for (int grain = 0; grain < GRAINS; grain++) {
@@ -744,10 +736,14 @@ public final class HaloTrees {
             }
         }
 
-        void survey(Field field) {
+        Forest surveyed(Field field) {
+            if (fresh) {
+                return this;
+            }
             pictures = field.pictures;
             for (int picture = 0; picture < pictures; picture++) {
                 clumpings[picture].link(field, picture, field.length);
+                clumpings[picture].gatherClumps(field.grainsOf(picture));
                 halos[picture].gather(field, clumpings[picture]);
                 halos[picture].goOnNowhere();
                 halos[picture].comeFromNowhere();
@@ -757,14 +753,22 @@ public final class HaloTrees {
                 halos[picture].comeFromThose(halos[picture - 1]);
             }
             fresh = true;
+            return this;
         }
 
-        int mainOf(int picture, int halo) {
-            return picture < 0 || picture >= pictures ? NONE : halos[picture].main[halo];
+        int branchBack(int picture, int halo, int k) {
+            if (k >= halos[picture].branchLength[halo]) {
+                return NONE;
+            }
+            int at = halo;
+            for (int back = 0; back < k && back < picture && at != NONE; back++) {
+                at = halos[picture - back].main[at];
+            }
+            return at;
         }
 
         int weightOfMain(int picture, int halo) {
-            int main = mainOf(picture, halo);
+            int main = halos[picture].main[halo];
             return main == NONE || picture < 1 ? 0 : halos[picture - 1].weight[main];
         }
 

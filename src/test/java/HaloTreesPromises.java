@@ -78,7 +78,7 @@ public final class HaloTreesPromises {
     due(2, "told(0)", t.told(0), 6);
     due(2, "told(7): what is refused is not kept", t.told(7), 6);
     due(2, "ofPicture(5, 0)", t.ofPicture(5, 0), 0);
-    t.put(5, 3, 1, 1);
+    for (int g = 0; g < 24; g++) t.put(5, g, 1, 1);
     t.drop();
     due(2, "picture() again", t.picture(), 5);
     due(2, "a new one is without grains", t.ofPicture(5, 1), 0);
@@ -302,6 +302,12 @@ public final class HaloTreesPromises {
     due(9, "undo()", t.undo(), NOT);
     oldestAreLost();
     changesThatChangeNothing();
+    HaloTrees seen = twoPictures();
+    due(9, "halo(0, 0, 0)", seen.halo(0, 0, 0), 7);
+    seen.lose(0, 1);
+    due(9, "halo(0, 0, 0)", seen.halo(0, 0, 0), 96);
+    seen.undo();
+    due(9, "halo(0, 0, 0) behind undo", seen.halo(0, 0, 0), 7);
   }
 
   private static void oldestAreLost() {
@@ -353,6 +359,21 @@ public final class HaloTreesPromises {
     t.drop();
     dueEach(10, "told", t::told, 1, 8, 2, 1, 0, 0, 1, 8);
     dueOutside(10, "told(what)", t::told, -1, 8, Integer.MIN_VALUE, Integer.MAX_VALUE);
+    mostHalos();
+  }
+
+  /** Every grain a halo of its own in every picture, which is the most there can be. */
+  private static void mostHalos() {
+    HaloTrees t = withPictures(6);
+    for (int p = 0; p < 6; p++) for (int g = 0; g < 24; g++) t.put(p, g, 2 * g, p);
+    t.bound(0, 1);
+    t.bound(1, 1);
+    dueEach(10, "told of 144 halos", t::told, 6, 1, 1, 144, 0, 0, 6, 8);
+    due(10, "halo(5, 23, 0)", t.halo(5, 23, 0), 1 << 23);
+    due(10, "branch(5, 23, 5)", t.branch(5, 23, 5), 23);
+    due(10, "branch(5, 23, 6)", t.branch(5, 23, 6), NONE);
+    due(10, "from(5, 23)", t.from(5, 23), 1 << 23);
+    due(10, "halo(5, 24, 0)", t.halo(5, 24, 0), UNKNOWN);
   }
 
   private static void promise11() {
@@ -422,6 +443,13 @@ public final class HaloTreesPromises {
     dueUnknown(13, "halo(0, halo, 9)", h -> t.halo(0, h, 9), -1, 1, 24, Integer.MIN_VALUE, Integer.MAX_VALUE);
     dueOutside(13, "halo(0, 0, what)", w -> t.halo(0, 0, w), -1, 8, Integer.MIN_VALUE, Integer.MAX_VALUE);
     numbersOfHalos();
+    HaloTrees dropped = twoPictures();
+    dropped.drop();
+    due(13, "strayed, the next picture dropped", dropped.halo(0, 0, 7), 0);
+    due(13, "goes on, the next picture dropped", dropped.halo(0, 0, 2), NONE);
+    HaloTrees six = withPictures(6);
+    lay(six, 5, 0, 0, 0, 1, 1, 1);
+    dueEach(13, "a halo of the last of six", w -> six.halo(5, 0, w), 3, 2, NONE, 0, NONE, 1, 2, 0);
   }
 
   /** Of like weights the lesser least grain comes first, wherever the clump lies and however many it has. */
@@ -481,6 +509,13 @@ public final class HaloTreesPromises {
     dueUnknown(16, "common(0, 0, next)", h -> t.common(0, 0, h), -1, 2, 24, Integer.MIN_VALUE, Integer.MAX_VALUE);
   }
 
+  /** At depth 2 it goes by X again: 4 at the top, below it 2 and 6 by Y, below 2 the grain 0, and 1 to its left. */
+  private static HaloTrees deeper() {
+    HaloTrees t = withPictures(1);
+    lay(t, 0, 0, 3, 0, 1, 2, 5, 2, 1, 10, 3, 0, 20, 4, 10, 0, 5, 20, 0, 6, 21, 30, 7, 22, 60);
+    return t;
+  }
+
   private static void promise17() {
     HaloTrees t = twoPictures();
     t.weigh(1, 5);
@@ -493,6 +528,10 @@ public final class HaloTreesPromises {
     dueEach(17, "within(0, 63, 63, 0)", w -> t.within(0, 63, 63, 0, w), 0, 0, 0, 2);
     dueEach(17, "within(0, 63, 63, 225)", w -> t.within(0, 63, 63, 225, w), 0, 0, 0, 3);
     dueEach(17, "within(0, 63, 63, 224)", w -> t.within(0, 63, 63, 224, w), 0, 0, 0, 2);
+    HaloTrees deep = deeper();
+    due(17, "depth 2, d 1 and w 0: not to the left", deep.within(0, 4, 0, 0, 3), 3);
+    due(17, "depth 2, d 1 and w 1: to the left", deep.within(0, 4, 0, 1, 3), 4);
+    due(17, "depth 2, d 0: to the left", deep.within(0, 3, 0, 0, 3), 4);
     t.picture();
     dueEach(17, "without grains", w -> t.within(2, 0, 0, 9999, w), 0, 0, 0, 0);
     dueUnknown(17, "within(picture, 99, 99, -1, 9)", p -> t.within(p, 99, 99, -1, 9), -1, 3, 6, Integer.MIN_VALUE, Integer.MAX_VALUE);
@@ -526,6 +565,13 @@ public final class HaloTreesPromises {
     // Picture 1: 2 at the top; left 0 (0, 0), 1 (0, 3), by Y: 1; right 5 (50, 53), 6 (53, 50), by Y: 5.
     dueEach(19, "below(1, 2)", s -> t.below(1, 2, s), 1, 5);
     dueEach(19, "below(1, 5)", s -> t.below(1, 5, s), 6, NONE);
+    HaloTrees deep = deeper();
+    dueEach(19, "deep, below(0, 4)", s -> deep.below(0, 4, s), 2, 6);
+    dueEach(19, "deep, below(0, 2)", s -> deep.below(0, 2, s), 0, 3);
+    dueEach(19, "deep, below(0, 0)", s -> deep.below(0, 0, s), 1, NONE);
+    dueEach(19, "deep, below(0, 6)", s -> deep.below(0, 6, s), 5, 7);
+    due(19, "deep, grain(0, 1, 6)", deep.grain(0, 1, 6), 3);
+    due(19, "deep, ofPicture(0, 5)", deep.ofPicture(0, 5), 4);
     dueUnknown(19, "below(picture, 0, 2)", p -> t.below(p, 0, 2), -1, 2, 6, Integer.MIN_VALUE, Integer.MAX_VALUE);
     dueUnknown(19, "below(0, grain, 2)", g -> t.below(0, g, 2), -1, 24, Integer.MIN_VALUE, Integer.MAX_VALUE);
     dueOutside(19, "below(0, 3, side)", s -> t.below(0, 3, s), -1, 2, Integer.MIN_VALUE, Integer.MAX_VALUE);

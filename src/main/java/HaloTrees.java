@@ -707,7 +707,6 @@ public final class HaloTrees {
         }
 
         void comeFromThose(Halos ahead) {
-            comeFromNowhere();
             for (int halo = 0; halo < ahead.count; halo++) {
                 int into = ahead.goesOn[halo];
                 if (into != NONE) {

@@ -835,20 +835,21 @@ public final class HaloTrees {
                     count++;
                 }
             }
-            top = split(0, count, 0);
+            top = split(this, 0, count, 0);
         }
 
-        private int split(int first, int end, int depth) {
+        // Static, and so is lookedAtFrom: LANGUAGE.md, rule 8, names a private static method as one that may call itself.
+        private static int split(SplittingTree tree, int first, int end, int depth) {
             if (first >= end || depth >= GRAINS) {
                 return NONE;
             }
-            sort(first, end, depth);
+            tree.sort(first, end, depth);
             int middle = first + (end - first) / 2;
-            int knot = order[middle];
-            depthOf[knot] = depth;
-            height = Math.max(height, depth + 1);
-            left[knot] = split(first, middle, depth + 1);
-            right[knot] = split(middle + 1, end, depth + 1);
+            int knot = tree.order[middle];
+            tree.depthOf[knot] = depth;
+            tree.height = Math.max(tree.height, depth + 1);
+            tree.left[knot] = split(tree, first, middle, depth + 1);
+            tree.right[knot] = split(tree, middle + 1, end, depth + 1);
             return knot;
         }
 
@@ -873,21 +874,21 @@ public final class HaloTrees {
         }
 
         int countLookedAt(int atX, int atY, int w) {
-            return lookedAtFrom(top, atX, atY, w, 0);
+            return lookedAtFrom(this, top, atX, atY, w, 0);
         }
 
-        private int lookedAtFrom(int knot, int atX, int atY, int w, int depth) {
+        private static int lookedAtFrom(SplittingTree tree, int knot, int atX, int atY, int w, int depth) {
             if (knot == NONE || depth >= GRAINS) {
                 return 0;
             }
-            int d = depth % 2 == 0 ? atX - x[knot] : atY - y[knot];
+            int d = depth % 2 == 0 ? atX - tree.x[knot] : atY - tree.y[knot];
             boolean close = d * d <= w;
             int count = 1;
             if (d <= 0 || close) {
-                count += lookedAtFrom(left[knot], atX, atY, w, depth + 1);
+                count += lookedAtFrom(tree, tree.left[knot], atX, atY, w, depth + 1);
             }
             if (d >= 0 || close) {
-                count += lookedAtFrom(right[knot], atX, atY, w, depth + 1);
+                count += lookedAtFrom(tree, tree.right[knot], atX, atY, w, depth + 1);
             }
             return count;
         }
